@@ -569,18 +569,17 @@ public final class NightHelp {
             }
         }
 
+        /** The last token, which is the end, stays when it is read over. */
         void advance() {
-            at++;
+            at += at < many - 1 ? 1 : 0;
             show();
         }
 
-        /** The last token, the end, stays when it is read over. */
         private void show() {
-            int here = Math.min(at, many - 1);
-            if (here >= 0) {
-                kind = kinds[here];
-                place = places[here];
-                value = values[here];
+            if (at >= 0 && at < many) {
+                kind = kinds[at];
+                place = places[at];
+                value = values[at];
             }
         }
 
