@@ -1783,31 +1783,28 @@ public final class NightHelp {
             return met;
         }
 
-        /** Gives need n, and as many needs in all as before, to the least person who can have it. */
+        /** Gives need n to the least person with whom as many needs are met as before. */
         private void settle(int n) {
-            for (int q = 0; q < MOST_PERSONS; q++) {
-                if (by[n] == q) {
-                    return;
-                }
+            for (int q = 0; q < MOST_PERSONS && by[n] != q; q++) {
                 if ((able[n] >> q & 1) == 1 && force(n, q)) {
                     return;
                 }
             }
         }
 
+        /** Gives need n to q; false, and nothing, if fewer were met then. Needs ahead of n stay. */
         private boolean force(int n, int q) {
             copyRow(by, byBefore);
             copyRow(load, loadBefore);
             boolean wasMet = by[n] >= 0;
             take(n);
-            boolean displaced = load[q] >= most;
-            if (displaced && !displaceOne(q, n + 1)) {
-                copyRow(byBefore, by);
-                copyRow(loadBefore, load);
-                return false;
+            boolean full = load[q] >= most;
+            boolean roomMade = !full || displaceOne(q, n + 1);
+            if (roomMade) {
+                give(n, q);
             }
-            give(n, q);
-            if (!wasMet || !displaced || improveAny(n + 1)) {
+            // one is lost if n was met and a later one gives way to it: another one must come then
+            if (roomMade && (!full || !wasMet || improveAny(n + 1))) {
                 return true;
             }
             copyRow(byBefore, by);

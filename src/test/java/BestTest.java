@@ -61,6 +61,15 @@ final class BestTest {
         due(x, 0, 0, 3, 0, 2, 18000000, 2);
         due(x, 2, 1, 1, 0, 2, 4000000, 2);
         due(x, 2, 1, 1, 1, 2, 0, 2);
+        // by day for nothing while bound; who leaves is free for gifts
+        due(x, 2, 1, 2, 1, 2, 4000000, 2);
+        due(x, 2, 1, 2, 2, 2, 0, 2);
+        due(x, 2, 1, 3, 2, 2, 4000000, 2);
+        Due.village(x, VILLAGE.replace("out 6", "out 3"));
+        due(x, 2, 1, 2, 2, 2, 1000000, 3);
+        due(x, 2, 1, 3, 2, 2, 5000000, 3);
+        Due.village(x, VILLAGE.replace("out 6", "out 4"));
+        due(x, 2, 1, 3, 2, 2, 4000000, 2);
         Due.village(x, VILLAGE.replace("gift 4", "gift 15"));
         due(x, 2, 0, 1, 0, 2, 0, 0);
         Due.village(x, VILLAGE.replace("gift 4", "gift 16"));

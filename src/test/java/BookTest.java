@@ -241,5 +241,14 @@ final class BookTest {
         Due.same("not below 0", x.bound(0, 2, 0), 0);
         Due.book(x, "");
         Due.same("a new book begins anew", x.judge(2), 0);
+        Due.book(x, "pa helps pc dig;pc thanks pb dig;pa helps pc dig;");
+        Due.same("wrong", x.judge(0), 1);
+        Due.same("astray", x.judge(1), 1);
+        Due.book(x, "pa leaves pc dig;pb leaves pc dig;pa helps pc dig;");
+        Due.same("no bond is left of the book before", x.judge(0), 2);
+        Due.same("no thanks astray", x.judge(1), 0);
+        Due.same("one help", x.judge(4), 1);
+        Due.sentence(x, "free");
+        Due.same("all are free", x.said(), 15);
     }
 }

@@ -51,6 +51,15 @@ final class LeftTest {
         x = Due.of("help a 1 1;help b 1 1;help c 1 1;person pa 1 can a 1 can b 1;person pb 1 can a 1 can c 1;"
             + "person pc 1 can c 1;person pd 1 needs a needs b needs c;");
         due(x, 1, 3, 1, 0, 2);
+        // who meets the first need goes ahead of whether the second one is met
+        x = Due.of("help a 1 1;help b 1 1;help c 1 1;person pa 1 can a 1 can b 1;person pb 1 can a 1 can c 1;"
+            + "person pd 1 needs a needs b needs c;");
+        due(x, 1, 2, 0, -1, 1);
+        // the third need could be met by moving the first, but it is met by moving the second
+        x = Due.of("help a 1 1;help b 1 1;help c 1 1;person pa 1 can a 1 can c 1;person pb 1 can a 1;"
+            + "person pc 1 can b 1 can c 1;person pd 1 can b 1;person pe 1 needs a needs b needs c;");
+        due(x, 1, 3, 0, 3, 2);
+        due(x, 2, 3, 0, 2, 0);
     }
 
     private static void oneself() {

@@ -208,6 +208,13 @@ final class RunTest {
         due(x, 11, 1, 11, 11, 0, 0, 2, 2, -1, 0, 7 + 45 + 7);
         x.run(1, 1);
         Due.same("no bonds at first", x.runOf(0), 1);
+        x = with(VILLAGE.replace("binds 1", "binds 9") + "help mend 9 1;person pd 1 needs mend;", "10 01 00 01");
+        due(x, 1, 1, 1, 1, 0, 0, 1, 0, -1, 1, 7);
+        due(x, 1, 1, 1, 1, 0, 0, 1, 0, -1, 1, 7);
+        x = with("help dig 10 4;help mend 9 1;person pa 1 can dig 1 can mend 1;person pb 0 needs dig needs mend;"
+            + "sees pb pa 3;", "20 01");
+        due(x, 1, 1, 2, 0, 2, 1, 1, 0, -1, 0);
+        due(x, 1, 1103527590, 2, 0, 2, 1, 1, 0, -1, 0);
     }
 
     private static void latest() {

@@ -54,6 +54,8 @@ final class SentenceTest {
         Due.sentenceFault(x, 1, "bound and ^or free");
         Due.sentenceFault(x, 1, "bound ^< 3");
         Due.sentenceFault(x, 1, "gained ^3");
+        Due.sentenceFault(x, 1, "gained ^; 3");
+        Due.sentenceFault(x, 1, "gained ^( 3");
         Due.sentenceFault(x, 1, "gained^");
         Due.sentenceFault(x, 1, "gained < ^bound");
         Due.sentenceFault(x, 1, "gained < ^= 3");
@@ -121,6 +123,8 @@ final class SentenceTest {
         due(x, "not free", 5);
         due(x, "gained < 0", 5);
         due(x, "gained = 10", 2);
+        due(x, "gained < 10", 5);
+        due(x, "gained < 11", 7);
         due(x, "gained > 9", 2);
         due(x, "gained > 10", 0);
         due(x, "felt = 0", 0);
