@@ -521,7 +521,7 @@ public final class NightHelp {
             int bound = Math.min(length, limit);
             many = 0;
             next = 0;
-            while (next < bound) {
+            for (int i = 0; i < MOST_TOKENS && next < bound; i++) {
                 int sign = text[next];
                 if (isSmall(sign) || isDigit(sign)) {
                     readWordOrNumber(text, length);
