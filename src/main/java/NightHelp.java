@@ -1408,7 +1408,7 @@ public final class NightHelp {
             ones++;
             tokens.advance();
             if (kind == Tokens.NOT) {
-                return everyone & ~readOne(depth + 1);
+                return readNot(depth + 1);
             }
             if (kind == Tokens.OPEN) {
                 return readBracket(depth + 1);
@@ -1417,6 +1417,10 @@ public final class NightHelp {
                 return readFigure(kind - Tokens.GAINED);
             }
             return kind == Tokens.BOUND ? boundPeople : freePeople;
+        }
+
+        private int readNot(int depth) {
+            return everyone & ~readOne(depth);
         }
 
         private int readBracket(int depth) {
