@@ -1026,7 +1026,7 @@ public final class NightHelp {
 
     /** Who is bound to which need, and until when; by a book as by a run. */
     private static final class Bonds {
-        /** The year of the thanks, and the last year that they bind; NONE: no bond. */
+        /** The year of the thanks that began the bond, and the last year that it holds; NONE: no bond. */
         private final int[] made = new int[MOST_BONDS];
         private final int[] last = new int[MOST_BONDS];
         /** Who was ever bound, as bits. */
@@ -1075,9 +1075,12 @@ public final class NightHelp {
             return v.hasPerson(p) && !already && standing(p, year) >= v.limit[p];
         }
 
+        /** Counts the years anew from the next one; thanks take nothing from what is due in this year already. */
         void bind(int p, int n, int year, int years) {
             if (isBond(p, n)) {
-                made[p * MOST_NEEDS + n] = year;
+                if (!isDue(p, n, year)) {
+                    made[p * MOST_NEEDS + n] = year;
+                }
                 last[p * MOST_NEEDS + n] = year + years;
                 ever |= 1 << p;
             }

@@ -18,6 +18,7 @@ final class BookTest {
         limitOfBonds();
         brokenBonds();
         anew();
+        anewWhileBound();
         leaving();
         figures();
         bound();
@@ -181,6 +182,39 @@ final class BookTest {
         Due.same("1, 3 and 4 broken", x.judge(2), 3);
         x = judged("pa helps pc dig;pc thanks pa dig;pc thanks pa dig;year 9;", "0000");
         Due.same("1 and 2 broken", x.judge(2), 2);
+    }
+
+    /** Thanks again take nothing away of what was to be done in that year already. */
+    private static void anewWhileBound() {
+        String bound = "pa helps pc dig;pc thanks pa dig;";
+        NightHelp x = judged(bound + "year 1;pb helps pc dig;pc thanks pa dig;", "00000");
+        Due.same("broken with the book", x.judge(2), 1);
+        Due.same("by pa", x.came(0, 4), 1);
+        Due.same("not by pb", x.came(1, 4), 0);
+        Due.same("astray", x.judge(1), 1);
+        Due.same("counted anew all the same", x.bound(0, 2, 0), 2);
+        Due.same("one bond", x.came(0, 3), 1);
+        Due.sentence(x, "broken = 1");
+        Due.same("said of pa", x.said(), 1);
+        x = judged(bound + "year 1;pb helps pc dig;pc thanks pa dig;pc thanks pa dig;year 2;pa helps pc dig;",
+            "00000000");
+        Due.same("once, however often thanked", x.judge(2), 1);
+        x = judged(bound + "year 1;pb helps pc dig;pc thanks pa dig;year 9;", "000000");
+        Due.same("1, 2 and 3 broken", x.judge(2), 3);
+        x = judged(bound + "year 2;pb helps pc dig;pc thanks pa dig;year 9;", "000000");
+        Due.same("1, the last one 2, 3 and 4 broken", x.judge(2), 4);
+        x = judged(bound + "year 3;pb helps pc dig;pc thanks pa dig;", "00000");
+        Due.same("behind the last one nothing is due", x.judge(2), 2);
+        x = judged(bound + "year 1;pb helps pc dig;pc thanks pa dig;year 2;pb helps pc dig;pc thanks pa dig;year 9;",
+            "000000000");
+        Due.same("1 to 4 broken", x.judge(2), 4);
+        x = judged(bound + "year 1;pb helps pc dig;pc thanks pa dig;pa leaves pc dig;year 9;", "0000000");
+        Due.same("who leaves is bound no more, in that year neither", x.judge(2), 0);
+        x = judged(bound + "year 1;pb helps pc dig;pa leaves pc dig;pc thanks pa dig;", "000000");
+        Due.same("who left is bound from the next year on alone", x.judge(2), 0);
+        Due.same("two years", x.bound(0, 2, 0), 2);
+        x = judged(bound + "year 1;pa helps pc dig;pc thanks pb dig;pc thanks pa dig;", "000000");
+        Due.same("kept", x.judge(2), 0);
     }
 
     private static void leaving() {

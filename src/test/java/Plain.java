@@ -390,10 +390,12 @@ final class Plain {
         return years;
     }
 
-    /** Binds p to need n from the next year on; false, and nothing, if that is above the limit. */
+    /** Binds p to need n from the next year on, in this one as before; false, and nothing, if that is above the limit. */
     private boolean bind(int p, int n, int year) {
         List<Integer> bond = List.of(p, n);
-        TreeSet<Integer> before = bonds.put(bond, span(year + 1, binds()));
+        TreeSet<Integer> before = bonds.get(bond);
+        boolean dueNow = before != null && before.contains(year);
+        bonds.put(bond, dueNow ? span(year, binds() + 1) : span(year + 1, binds()));
         if (standing(p, year) <= limits.get(p)) {
             everBound.add(p);
             return true;
