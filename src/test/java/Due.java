@@ -1,3 +1,6 @@
+import java.io.IOException;
+import java.nio.file.Files;
+import java.nio.file.Path;
 import java.util.NoSuchElementException;
 
 /** What the tests share: feeding texts, comparing answers, and telling how it came out. */
@@ -6,10 +9,30 @@ final class Due {
         long answer();
     }
 
+    private static final String DOCUMENT = document();
+
     private static int wrong = 0;
     private static int asked = 0;
+    private static String sentence = "";
 
     private Due() {
+    }
+
+    /** The document with one blank between its words; nothing, where it does not lie beside the project. */
+    private static String document() {
+        try {
+            return Files.readString(Path.of("../shared/DOC.md")).replaceAll("\\s+", " ");
+        } catch (IOException notThere) {
+            return "";
+        }
+    }
+
+    /** The sentence of the document to which the next answers are due: word by word, so that it is found there. */
+    static void says(String words) {
+        sentence = words;
+        if (!DOCUMENT.isEmpty() && !DOCUMENT.contains(words)) {
+            tell("the document does not say so");
+        }
     }
 
     static void same(String what, long got, long want) {
@@ -35,7 +58,7 @@ final class Due {
     static void tell(String fault) {
         wrong++;
         if (wrong <= 40) {
-            System.out.println(fault);
+            System.out.println(sentence.isEmpty() ? fault : "\"" + sentence + "\": " + fault);
         }
     }
 
@@ -109,6 +132,23 @@ final class Due {
         int place = marked.indexOf('^');
         same("sentence " + marked, sentence(x, marked.replace("^", "")), -1 - place);
         same("fault of sentence " + marked, x.fault(), kind);
+    }
+
+    /** A village without a fault: how many lines it has. */
+    static void villageLines(int lines, String text) {
+        NightHelp x = new NightHelp();
+        same("village " + text, village(x, text), lines);
+        same("fault of village " + text, x.fault(), 0);
+    }
+
+    static void bookLines(NightHelp x, int lines, String text) {
+        same("book " + text, book(x, text), lines);
+        same("fault of book " + text, x.fault(), 0);
+    }
+
+    static void sentenceOnes(NightHelp x, int ones, String text) {
+        same("sentence " + text, sentence(x, text), ones);
+        same("fault of sentence " + text, x.fault(), 0);
     }
 
     static String repeat(String part, int times) {

@@ -13,6 +13,7 @@ final class ModelTest {
     private Plain plain;
     private NightHelp x;
     private String villageText;
+    private String bookText;
 
     private ModelTest(long seed) {
         dice = new Random(seed);
@@ -21,6 +22,7 @@ final class ModelTest {
     public static void main(String[] args) {
         for (long seed = 1; seed <= 1500 && Due.allWell(); seed++) {
             new ModelTest(seed).compare(seed);
+            new ModelTest(-seed).compareLeftOfMany();
             if (!Due.allWell()) {
                 System.out.println("with seed " + seed);
             }
@@ -177,8 +179,10 @@ final class ModelTest {
             text = villageText(false);
         }
         village(text);
+        x = fresh();
         compareVillage();
         compareBest();
+        x = fresh();
         for (int i = 0; i < 3; i++) {
             book(spoilt(bookText()));
             book(bookText());
@@ -186,9 +190,16 @@ final class ModelTest {
             sentence(spoilt(sentenceText(3)));
             sentence(sentenceText(1 + upTo(2)));
         }
+        x = fresh();
         compareRuns();
+        x = fresh();
         compareLeft();
         compareThink();
+    }
+
+    /** Another object with the village: after 512 calls one may answer anything. */
+    private NightHelp fresh() {
+        return Due.of(villageText);
     }
 
     private static int clipped(String text) {
@@ -216,6 +227,7 @@ final class ModelTest {
         try {
             Due.same("book " + text, lines, plain.book(text));
             Due.same("fault of book " + text, x.fault(), 0);
+            bookText = text;
         } catch (Plain.Fault fault) {
             Due.same("book " + text, lines, -1 - fault.place);
             Due.same("fault of book " + text, x.fault(), fault.kind);
@@ -272,6 +284,7 @@ final class ModelTest {
 
     private void compareBest() {
         for (int n = 0; n < plain.needs.size(); n++) {
+            x = n % 24 == 0 ? fresh() : x;
             int t = upTo(20);
             int law = upTo(2);
             int need = n;
@@ -295,29 +308,39 @@ final class ModelTest {
     private void compareBook() {
         int persons = plain.persons.size();
         int[] sums = new int[5];
+        NightHelp y = fresh();
+        Due.book(y, bookText);
         for (int i = 0; i < plain.wrongs.size(); i++) {
-            Due.same("wrong " + i, x.wrong(i), plain.wrongs.get(i));
+            Due.same("wrong " + i, y.wrong(i), plain.wrongs.get(i));
             sums[0] += plain.wrongs.get(i) == 0 ? 0 : 1;
         }
         sums[1] = plain.astray;
         for (int p = 0; p < persons; p++) {
             for (int what = 0; what < 5; what++) {
-                Due.same("came " + p + " " + what, x.came(p, what), plain.came(p, what));
+                Due.same("came " + p + " " + what, y.came(p, what), plain.came(p, what));
             }
             sums[2] += plain.broken[p];
             sums[3] += plain.gained[p];
             sums[4] += plain.helped[p];
-            for (int q = 0; q < persons; q++) {
+        }
+        for (int what = 0; what < 5; what++) {
+            Due.same("judge " + what, y.judge(what), sums[what]);
+        }
+        Due.same("lines", y.count(3), plain.wrongs.size());
+        compareBonds();
+    }
+
+    private void compareBonds() {
+        NightHelp y = fresh();
+        Due.book(y, bookText);
+        for (int p = 0; p < plain.persons.size(); p++) {
+            for (int q = 0; q < plain.persons.size(); q++) {
                 for (int k = 0; k < plain.helps.size(); k++) {
-                    Due.same("bound " + p + " " + q + " " + k, x.bound(p, q, k),
+                    Due.same("bound " + p + " " + q + " " + k, y.bound(p, q, k),
                         plain.yearsBehind(p, plain.needs.indexOf(List.of(q, k))));
                 }
             }
         }
-        for (int what = 0; what < 5; what++) {
-            Due.same("judge " + what, x.judge(what), sums[what]);
-        }
-        Due.same("lines", x.count(3), plain.wrongs.size());
     }
 
     private void compareRuns() {
@@ -347,16 +370,39 @@ final class ModelTest {
     }
 
     private void compareLeft() {
-        if (plain.persons.size() > 5 || plain.needs.size() > 14) {
-            return;
-        }
         for (int m = 0; m < 5; m++) {
-            List<Integer> by = plain.left(m);
+            List<Integer> by = plain.leftOfMany(m);
+            if (plain.persons.size() <= 5 && plain.needs.size() <= 14) {
+                Due.same("the model's left " + m + " " + villageText, plain.left(m).equals(by), true);
+            }
             Due.same("left " + m + " " + villageText, x.left(m), by.get(plain.needs.size()));
             for (int n = 0; n < plain.needs.size(); n++) {
                 Due.same("leftBy " + n + " of " + m + " " + villageText, x.leftBy(n), by.get(n));
             }
         }
+    }
+
+    /** A village in which many need and some can, as far as 900 bytes go, for who is left alone. */
+    private void compareLeftOfMany() {
+        int helps = 2 + upTo(4);
+        int persons = 3 + upTo(5);
+        int can = 1 + upTo(5);
+        int need = 2 + upTo(6);
+        StringBuilder s = new StringBuilder();
+        for (int k = 0; k < helps; k++) {
+            s.append("help ").append(name('h', k)).append(" 1 1;");
+        }
+        for (int p = 0; p < persons; p++) {
+            s.append("person ").append(name('p', p)).append(" 1");
+            for (int k = 0; k < helps && s.length() < 850; k++) {
+                s.append(chance(can) ? " can " + name('h', k) + " 1" : "");
+                s.append(chance(need) ? " needs " + name('h', k) : "");
+            }
+            s.append(';');
+        }
+        x = new NightHelp();
+        village(s.toString());
+        compareLeft();
     }
 
     private void compareThink() {

@@ -651,6 +651,59 @@ final class Plain {
         return most;
     }
 
+    // ---- left, of many
+
+    /** As left, for villages in which not all ways can be tried: by the most needs met when some are settled. */
+    List<Integer> leftOfMany(int m) {
+        int[] by = new int[needs.size()];
+        java.util.Arrays.fill(by, -2);
+        int all = mostMet(by, m);
+        for (int n = 0; n < by.length; n++) {
+            int q = 0;
+            for (by[n] = 0; q < persons.size() && !(helper(q, n) && mostMet(by, m) == all); q++) {
+                by[n] = q + 1;
+            }
+            by[n] = q < persons.size() ? q : -1;
+        }
+        List<Integer> told = new ArrayList<>();
+        for (int who : by) {
+            told.add(who);
+        }
+        told.add(all);
+        return told;
+    }
+
+    /** By whom needs are settled (-1 nobody, -2 not yet), the most that are met; each person counts m times. */
+    private int mostMet(int[] by, int m) {
+        int[] slots = new int[persons.size() * m];
+        java.util.Arrays.fill(slots, -1);
+        int met = 0;
+        for (int n = 0; n < by.length; n++) {
+            met += by[n] != -1 && seat(n, by, slots, new boolean[slots.length]) ? 1 : 0;
+        }
+        for (int n = 0; n < by.length; n++) {
+            int want = n;
+            if (by[n] >= 0 && java.util.Arrays.stream(slots).noneMatch(s -> s == want)) {
+                return -1;
+            }
+        }
+        return met;
+    }
+
+    private boolean seat(int n, int[] by, int[] slots, boolean[] seen) {
+        for (int s = slots.length - 1; s >= 0; s--) {
+            int q = s % persons.size();
+            if (!seen[s] && helper(q, n) && (by[n] < 0 || by[n] == q)) {
+                seen[s] = true;
+                if (slots[s] < 0 || seat(slots[s], by, slots, seen)) {
+                    slots[s] = n;
+                    return true;
+                }
+            }
+        }
+        return false;
+    }
+
     // ---- think
 
     int[] think(int p, int k, int outside, int home) {

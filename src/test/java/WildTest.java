@@ -14,18 +14,20 @@ final class WildTest {
 
     private final Random dice;
     private final NightHelp x = new NightHelp();
+    private int calls = 0;
 
     private WildTest(long seed) {
         dice = new Random(seed);
     }
 
     public static void main(String[] args) {
-        for (long seed = 1; seed <= 600 && Due.allWell(); seed++) {
+        for (long seed = 1; seed <= 1200 && Due.allWell(); seed++) {
             WildTest test = new WildTest(seed);
             if (seed % 3 != 0) {
+                test.calls = 20;
                 Due.village(test.x, VILLAGE);
             }
-            for (int i = 0; i < 500; i++) {
+            while (test.calls < 440) {
                 int call = test.dice.nextInt(31);
                 try {
                     test.call(call);
@@ -49,11 +51,14 @@ final class WildTest {
             text.append(WORDS[dice.nextInt(WORDS.length)]).append(dice.nextInt(8) == 0 ? "" : " ");
         }
         if (x.count(7) + text.length() <= 900) {
+            calls += 5 + text.length() / 20;
             Due.feed(x, text.toString());
         }
     }
 
+    /** Some more calls are left for the longest text: after 512 an object may answer anything. */
     private void call(int call) {
+        calls++;
         switch (call) {
             case 0 -> x.help(any(), any());
             case 1 -> x.person(any(), any());
@@ -90,6 +95,7 @@ final class WildTest {
     }
 
     private void textOrCount() {
+        calls += 4;
         x.count(any());
         text();
         if (dice.nextBoolean()) {
