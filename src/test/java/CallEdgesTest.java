@@ -22,6 +22,7 @@ final class CallEdgesTest {
         villageRefused();
         newVillage();
         tapeIsEmptyThen();
+        throwing();
         fault();
         help();
         person();
@@ -40,6 +41,7 @@ final class CallEdgesTest {
         ways();
         run();
         runBy();
+        runByWhat();
         runOf();
         left();
         leftBy();
@@ -285,6 +287,23 @@ final class CallEdgesTest {
             Due.sentence(x, text);
             Due.same("behind sentence() of " + text, x.count(7), 0);
         }
+    }
+
+    private static void throwing() {
+        Due.says("A call that throws changes nothing.");
+        refused("calls that throw", z -> {
+            Due.none("help", () -> z.help(2, 0));
+            Due.none("person", () -> z.person(3, 0));
+            Due.none("came", () -> z.came(3, 0));
+            Due.none("best", () -> z.best(1, 0, 1, 0, 0));
+        });
+        NightHelp x = new NightHelp();
+        Shown before = Shown.by(x);
+        Due.none("help", () -> x.help(0, 0));
+        Due.none("person", () -> x.person(0, 0));
+        Due.none("came", () -> x.came(0, 0));
+        Due.none("best", () -> x.best(0, 0, 0, 0, 0));
+        before.stays("a new object", x);
     }
 
     private static void fault() {
@@ -650,6 +669,33 @@ final class CallEdgesTest {
                 Due.same("runBy(" + no + ")", z.runBy(no), -2);
             }
         });
+    }
+
+    private static void runByWhat() {
+        Due.says("By the latest run() that was not NONE: 0 helps by day, 1 by night, 2 by night and found, 3 thanks (of who is"
+            + " not bound by them for LIMIT, too), 4 ASTRAY, 5 STAND (NONE: never), 6 NEEDS that were not met,"
+            + " 7 GAINED by all.");
+        NightHelp x = Due.of("help dig 10 4;help mend 9 1;help mow 5 0;person pa 1 can dig 3;person pb 0 needs dig needs mow;"
+            + "person pc 1 can dig 5 can mend 2;person pd 0 needs mend;sees pb pa 10;binds 1;");
+        Due.same("ways", x.ways(0, 2, 0) && x.ways(1, 0, 3) && x.ways(2, 1, 0) && x.ways(3, 0, 1), true);
+        // pa digs by night, pc is thanked for it, digs in the next YEAR, mends in both; nobody mows
+        Due.same("run(2, 1)", x.run(2, 1), 4);
+        int[] due = {3, 1, 1, 3, 1, 0, 2, 10 - 3 - 4 + 10 - 5 + 2 * (9 - 2)};
+        for (int what = 0; what < 8; what++) {
+            Due.same("runBy(" + what + ")", x.runBy(what), due[what]);
+        }
+        Due.same("run(61, 1)", x.run(61, 1), -1);
+        for (int what = 0; what < 8; what++) {
+            Due.same("runBy(" + what + ") of the latest that was not NONE", x.runBy(what), due[what]);
+        }
+        Due.same("run(1, 1)", x.run(1, 1), 2);
+        int[] one = {1, 1, 1, 2, 1, 0, 1, 10 - 3 - 4 + 9 - 2};
+        for (int what = 0; what < 8; what++) {
+            Due.same("runBy(" + what + ") of the latest", x.runBy(what), one[what]);
+        }
+        x.ways(3, 0, 0);
+        x.run(2, 1);
+        Due.same("STAND never", x.runBy(5), -1);
     }
 
     private static void runOf() {
