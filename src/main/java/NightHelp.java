@@ -512,7 +512,7 @@ public final class NightHelp {
         private final int[] places = new int[MOST_TOKENS];
         private final int[] values = new int[MOST_TOKENS];
         private int many = 0;
-        private int at = 0;
+        private int at = NONE;
         private int next = 0;
 
         /** Reads all tokens that begin ahead of the limit; behind them comes the end, or what is too much. */
@@ -535,8 +535,8 @@ public final class NightHelp {
             add(length > limit ? BAD : END, bound, 0);
             fault = 0;
             faultPlace = 0;
-            at = 0;
-            show();
+            at = NONE;
+            advance();
         }
 
         private void readWordOrNumber(byte[] text, int length) {
@@ -572,10 +572,6 @@ public final class NightHelp {
         /** The last token, which is the end, stays when it is read over. */
         void advance() {
             at += at < many - 1 ? 1 : 0;
-            show();
-        }
-
-        private void show() {
             if (at >= 0 && at < many) {
                 kind = kinds[at];
                 place = places[at];
@@ -1058,7 +1054,8 @@ public final class NightHelp {
 
         /** Whether it is to be done in this very year. */
         boolean isDue(int p, int n, int year) {
-            return year <= lastYear(p, n) && isBond(p, n) && made[p * MOST_NEEDS + n] < year;
+            int at = p * MOST_NEEDS + n;
+            return isBond(p, n) && made[at] < year && last[at] >= year;
         }
 
         /** How many bonds of p hold in a year or a later one. */
@@ -1071,17 +1068,16 @@ public final class NightHelp {
         }
 
         boolean isAbove(Village v, int p, int n, int year) {
-            boolean already = lastYear(p, n) >= year;
+            boolean already = isBond(p, n) && last[p * MOST_NEEDS + n] >= year;
             return v.hasPerson(p) && !already && standing(p, year) >= v.limit[p];
         }
 
         /** Counts the years anew from the next one; thanks take nothing from what is due in this year already. */
         void bind(int p, int n, int year, int years) {
             if (isBond(p, n)) {
-                if (!isDue(p, n, year)) {
-                    made[p * MOST_NEEDS + n] = year;
-                }
-                last[p * MOST_NEEDS + n] = year + years;
+                int at = p * MOST_NEEDS + n;
+                made[at] = last[at] < year ? year : made[at];
+                last[at] = year + years;
                 ever |= 1 << p;
             }
         }
@@ -1697,7 +1693,9 @@ public final class NightHelp {
                 figures[GAINED] -= halfUp(village.painsOf(second, k)) + halfUp(village.hide[k]);
                 helped[h]++;
                 helped[second]++;
-                found = isFound(h) & isFound(second);
+                boolean firstFound = isFound(h);
+                boolean secondFound = isFound(second);
+                found = firstFound && secondFound;
             }
             if (found) {
                 figures[FOUND]++;
@@ -1713,8 +1711,9 @@ public final class NightHelp {
         private boolean isFound(int h) {
             boolean found = false;
             for (int q = 0; q < persons; q++) {
-                if (village.sight(q, h) > 0) {
-                    found |= draw(10) < village.sight(q, h);
+                int sight = village.sight(q, h);
+                if (sight > 0 && draw(10) < sight) {
+                    found = true;
                 }
             }
             return found;
